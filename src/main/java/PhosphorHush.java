@@ -1,9 +1,8 @@
 import java.util.Arrays;
 
 /**
- * A phosphor screen that hides a secret picture in the fading of a dull one. The public methods
- * look at the arguments that no other class looks at, keep the history and answer; the work is
- * done by the classes inside.
+ * A phosphor screen that hides a secret picture in the fading of a dull one. All rows are made
+ * once, with the object, and used again: no call makes a new object.
  */
 public final class PhosphorHush {
     public static final int INVALID_ARGUMENT = -1;
@@ -285,7 +284,7 @@ public final class PhosphorHush {
 
     // ---- the history
 
-    /** Keeps the present state as a draft, so that an action can change it without a look back. */
+    /** Keeps the present state as a draft, before it is known whether the action succeeds. */
     private void prepare() {
         history[kept].copyFrom(now);
     }
@@ -559,21 +558,21 @@ public final class PhosphorHush {
 
         // -- eye and shutter
 
-        /** The brightness of a spot at a tick; its litTick() is asked for once by the caller. */
-        int shine(int spot, int litTick, int tick) {
-            if (litTick == NONE) {
+        /** The brightness of a spot at a tick; lit is its litTick(), which is dear to find. */
+        int shine(int spot, int lit, int tick) {
+            if (lit == NONE) {
                 return 0;
             }
-            int age = tick - litTick;
+            int age = tick - lit;
             return glow(phosphors[spot], age < 0 ? age + settings[PERIOD] : age);
         }
 
         private int sumOver(int spot, int start, int length) {
-            int litTick = litTick(spot);
+            int lit = litTick(spot);
             int sum = 0;
             int tick = start;
             for (int i = 0; i < length; i++) {
-                sum += shine(spot, litTick, tick);
+                sum += shine(spot, lit, tick);
                 tick = next(tick);
             }
             return sum;
@@ -601,11 +600,11 @@ public final class PhosphorHush {
         }
 
         int flicker(int spot) {
-            int litTick = litTick(spot);
-            int greatest = shine(spot, litTick, 0);
+            int lit = litTick(spot);
+            int greatest = shine(spot, lit, 0);
             int smallest = greatest;
             for (int tick = 1; tick < settings[PERIOD]; tick++) {
-                int bright = shine(spot, litTick, tick);
+                int bright = shine(spot, lit, tick);
                 greatest = Math.max(greatest, bright);
                 smallest = Math.min(smallest, bright);
             }
@@ -622,13 +621,13 @@ public final class PhosphorHush {
 
         /** No bound is 0, so that nobody sees a spot outside the order. */
         private long seen(int start, int length, int bound) {
-            long seen = 0;
+            long spots = 0;
             for (int i = 0; i < size; i++) {
                 if (mean(sumOver(order[i], start, length), length) >= bound) {
-                    seen |= 1L << order[i];
+                    spots |= 1L << order[i];
                 }
             }
-            return seen;
+            return spots;
         }
 
         /** The spots that are wrong for one who sees these. */
@@ -648,7 +647,7 @@ public final class PhosphorHush {
         private void countSeen(int spot, int[] wrongAt) {
             int change = bit(pictures[SECRET], spot) == 1 ? -1 : 1;
             int length = settings[LENGTH];
-            int litTick = litTick(spot);
+            int lit = litTick(spot);
             int sum = sumOver(spot, 0, length);
             int behind = 0;
             for (int i = 0; i < length; i++) {
@@ -658,7 +657,7 @@ public final class PhosphorHush {
                 if (mean(sum, length) >= settings[SHUTTER_BOUND]) {
                     wrongAt[start] += change;
                 }
-                sum += shine(spot, litTick, behind) - shine(spot, litTick, start);
+                sum += shine(spot, lit, behind) - shine(spot, lit, start);
                 behind = next(behind);
             }
         }
@@ -768,11 +767,15 @@ public final class PhosphorHush {
             for (int left = 0; left < 1 << size; left++) {
                 for (int i = 0; i < size; i++) {
                     if ((left >> i & 1) == 0) {
-                        int next = bestStep(left, spots[i]);
-                        rest[left * ORDER_LIMIT + i] = next < 0 ? 0 : travelBy(left, spots[i], next);
+                        rest[left * ORDER_LIMIT + i] = leastFrom(left, spots[i]);
                     }
                 }
             }
+        }
+
+        private int leastFrom(int left, int from) {
+            int next = bestStep(left, from);
+            return next < 0 ? 0 : travelBy(left, from, next);
         }
 
         private int travelBy(int left, int from, int next) {

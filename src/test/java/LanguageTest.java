@@ -46,7 +46,8 @@ public final class LanguageTest {
 
     private static void face() {
         Class<?> program = PhosphorHush.class;
-        if (!Modifier.isFinal(program.getModifiers()) || !Modifier.isPublic(program.getModifiers())) {
+        int modifiers = program.getModifiers();
+        if (!Modifier.isFinal(modifiers) || !Modifier.isPublic(modifiers)) {
             fault("the class is not public and final");
         }
         TreeSet<String> methods = new TreeSet<>();

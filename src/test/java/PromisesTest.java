@@ -22,12 +22,15 @@ public final class PromisesTest {
         taking();
         restoring();
         undoing();
+        undoingEachAction();
         historyOfFive();
         appending();
         clearing();
         runningPrograms();
         failingPrograms();
         failingTokens();
+        textsWithRemainders();
+        fullTexts();
         counting();
         lookingAtSpots();
         lookingAtPositions();
@@ -329,6 +332,48 @@ public final class PromisesTest {
         due("11: undo()", x.undo(), 0);
     }
 
+    private static void undoingEachAction() {
+        PhosphorHush x = lit(3, 1);
+        x.append(';');
+        x.set(0, 90);
+        undone(x);
+        due("11: count(13)", x.count(13), 60);
+        x.setPhosphor(3, 2);
+        undone(x);
+        due("11: spot(3, 0)", x.spot(3, 0), 0);
+        x.light(2);
+        undone(x);
+        x.darken(3);
+        undone(x);
+        x.exchange(0, 1);
+        undone(x);
+        x.sort(0);
+        undone(x);
+        x.draw(0, 5, 1);
+        undone(x);
+        due("11: count(2)", x.count(2), 0);
+        x.take(0);
+        undone(x);
+        due("11: count(10)", x.count(10), 0);
+        due("11: run() fails", x.run(), -1000);
+        x.clearText();
+        x.run();
+        undone(x);
+        x.take(1);
+        x.darken(1);
+        x.restore(1);
+        due("11: undo() of restore()", x.undo(), 4);
+        order("11", x, 3);
+        due("11: undo() of darken()", x.undo(), 3);
+        undone(x);
+    }
+
+    /** Undoes what was done behind lit(3, 1), and looks at what stands then. */
+    private static void undone(PhosphorHush x) {
+        due("11: undo()", x.undo(), 2);
+        order("11", x, 3, 1);
+    }
+
     private static void historyOfFive() {
         PhosphorHush x = new PhosphorHush();
         for (int i = 0; i < 8; i++) {
@@ -435,6 +480,12 @@ public final class PromisesTest {
         runs(x, " 5;", -1001);
         runs(x, "lights 1;", -1000);
         runs(x, "ligh 1;", -1000);
+        runs(x, "lightz 1;", -1000);
+        runs(x, "alight 1;", -1000);
+        runs(x, "light{1;", -1005);
+        runs(x, "light`1;", -1005);
+        runs(x, "light 1:", -1007);
+        runs(x, "light /;", -1006);
         runs(x, "Light 1;", -1000);
         runs(x, "lighT 1;", -1000);
         runs(x, "light", -1005);
@@ -460,6 +511,33 @@ public final class PromisesTest {
         due("14: count(0)", x.count(0), 0);
         due("14: count(11)", x.count(11), 0);
         runs(x, "light 0;", 1);
+    }
+
+    private static void textsWithRemainders() {
+        PhosphorHush x = new PhosphorHush();
+        // What was typed before stands no more, wherever the new text ends.
+        type(x, "sort 12; sort 1;");
+        runs(x, "sor", -1000);
+        runs(x, "sort 12; sort 1;", -1000);
+        runs(x, "sort", -1004);
+        runs(x, "sort 1", -1006);
+        runs(x, "sort 3;", 1);
+        runs(x, "light 12;", 1);
+        runs(x, "light 1", -1007);
+        runs(x, "light 1;", 1);
+        order("14", x, 12, 1);
+    }
+
+    private static void fullTexts() {
+        PhosphorHush x = new PhosphorHush();
+        runs(x, " ".repeat(140), 0);
+        runs(x, " ".repeat(139) + "a", -1139);
+        runs(x, " ".repeat(136) + "sort", -1140);
+        runs(x, " ".repeat(135) + "dull9", -1140);
+        runs(x, " ".repeat(134) + "dull9;", 1);
+        runs(x, "sort 0" + " ".repeat(134), -1140);
+        runs(x, "sort 0;" + " ".repeat(132) + ";", -1139);
+        due("14: count(2)", x.count(2), 1);
     }
 
     private static void counting() {
@@ -599,7 +677,8 @@ public final class PromisesTest {
         x.set(0, 200);
         int[] halved = {100, 50, 25, 12, 6, 3, 1, 0};
         for (int n = 0; n < 199; n++) {
-            due("18: brightness of the halving", x.brightness(0, n + 1), halved[Math.min(n / 5, 7)]);
+            int want = halved[Math.min(n / 5, 7)];
+            due("18: brightness of the halving", x.brightness(0, n + 1), want);
         }
         due("18: brightness(0, 0)", x.brightness(0, 0), 0);
         due("18: brightness(0, 200)", x.brightness(0, 200), INVALID);
