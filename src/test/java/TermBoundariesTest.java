@@ -1068,9 +1068,7 @@ public final class TermBoundariesTest extends Sentences {
 
     private static void nothingStaysOfAFailure() {
         sentence("Programs", "If a program fails, nothing that it has done stays.");
-        String all = "light5;kind 5 3;dull5;secret5;dark 63;swap 0 1;sort 0;";
-        Consumer<Watched> failing = x -> x.runs(all + "light 64;").is(-1054);
-        Consumer<Watched> typing = x -> x.type(all + "light 64;");
+        String text = "light5;kind 5 3;dull5;secret5;dark 63;swap 0 1;sort 0;light 64;";
         // A full history, and one that has room: neither gets longer, nor loses its oldest.
         int[][] orders = {{9, 63, 4}, {9, 63, 4, 30, 31, 32}};
         for (int[] order : orders) {
@@ -1078,12 +1076,12 @@ public final class TermBoundariesTest extends Sentences {
                 for (int spot : order) {
                     x.light(spot);
                 }
-                typing.accept(x);
+                x.type(text);
             };
             Watched.leavesAll(setUp, x -> x.run().is(-1054));
         }
         Watched x = lit(9, 63, 4);
-        failing.accept(x);
+        x.runs(text).is(-1054);
         x.order(9, 63, 4);
         x.count(2).is(0);
         x.count(3).is(0);
