@@ -1489,7 +1489,7 @@ public final class TermBoundariesTest extends Sentences {
         leavesAll(x -> x.count(19), INVALID);
         leavesAll(x -> x.spot(10, 10), INVALID);
         leavesAll(x -> x.at(-1), INVALID);
-                leavesAll(x -> x.brightness(10, 100), INVALID);
+        leavesAll(x -> x.brightness(10, 100), INVALID);
         leavesAll(x -> x.firstWrong(2), INVALID);
         leavesAll(x -> x.bestStart(2), INVALID);
         leavesAll(x -> x.leastTravel(-2), INVALID);
